@@ -465,7 +465,7 @@ public final class PromiseTest {
             {1, 0, 0, 0}, {0, 1, 0, 0}, {0, 0, 1, 0}, {0, 0, 0, 0}, {1, 1, 0, 0}, {1, -1, 0, 0},
             {0, -7, 5, 0}, {0, 490, -350, 0}, {6, 0, 0, 0}};
         int[] sum = new int[4];
-        int[] weights = {1, -1, 20, -20, 0, 7, -3, 2};
+        int[] weights = {1, -1, 0, -20, 3, 7, -20, 20};
         for (int t = 0; t < 8; t++) {
             s.term(t + 1, weights[t]);
             for (int i = 0; i < 4; i++) {
@@ -494,6 +494,13 @@ public final class PromiseTest {
         for (int i = 0; i < 4; i++) {
             Due.is("17: of constants alone, along " + i, s.slope(0, i), 0);
         }
+        s.clear();
+        s.parameter(3);
+        for (int node = 1; node < 24; node++) {
+            s.combine(0, node - 1, node - 1);
+        }
+        s.term(23, -3);
+        Due.is("17: of 24 nodes", s.slope(2, 3), -3 << 23);
     }
 
     // Promise 18
