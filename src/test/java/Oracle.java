@@ -6,8 +6,8 @@ import java.util.Set;
 
 /**
  * The document a second time, by other means, so that one mistake is not made twice:
- * whole numbers without wrap, cut to an int at the end, and slopes gathered from the
- * target down to the parameters instead of up.
+ * each value worked out without wrap and then cut to an int, a square taken as a product,
+ * and slopes gathered from the target down to the parameters instead of up.
  */
 final class Oracle {
     private record Node(char kind, int a, int b) {

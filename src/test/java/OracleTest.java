@@ -1,6 +1,6 @@
 import java.util.Random;
 
-/** Runs of 512 mixed calls, good and bad, each answered by TapeSampler and by Oracle. */
+/** Runs of at most 512 mixed calls, good and bad, each answered by TapeSampler and by Oracle. */
 public final class OracleTest {
     private static final int RUNS = 1500;
     private static final int CALLS = 512;
