@@ -1,3 +1,5 @@
+import java.util.List;
+
 /** The edges that the document names for chains and shift: promises 10 to 14, 21 and 22. */
 public final class ChainEdgeTest {
     private static final int MIN = Edge.MIN;
@@ -97,10 +99,8 @@ public final class ChainEdgeTest {
     }
 
     private static void shiftLeavesTheRest() {
-        TapeSampler with = State.FULL.make();
-        with.shift(20);
-        with.shift(State.FULL.shift());
-        Edge.sameLater("12: there and back, then ", with, State.FULL.make());
+        List<Call> calls = List.of(new Call("shift", 20), new Call("shift", State.FULL.shift()));
+        Edge.changeNothing("12: there and back", State.FULL, calls);
     }
 
     private static void askedNotGood(String promise, String asked) {
@@ -151,8 +151,7 @@ public final class ChainEdgeTest {
                 Due.is("21: All momenta of a chain", s.momentum(cell / 4, cell % 4), due);
                 Due.is("21: no position", s.position(cell / 4, cell % 4), state.position(cell / 4, cell % 4));
             }
-            s.turn(chain);
-            Edge.sameLater("21: turned twice, then ", s, state.make());
+            Edge.changeNothing("21: turned twice", state, List.of(new Call("turn", chain), new Call("turn", chain)));
         }
     }
 

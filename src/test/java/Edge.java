@@ -1,3 +1,5 @@
+import java.util.List;
+
 /** A call at an edge that a sentence of the document names. */
 final class Edge {
     static final int MIN = Integer.MIN_VALUE;
@@ -17,18 +19,25 @@ final class Edge {
         Due.is(sentence + " | " + state + ": " + call, call.on(state.make()), due);
     }
 
-    /** The same, and all later calls answer as they do on a twin without the call. */
     static void answersAndChangesNothing(String sentence, State state, int due, String name, int... args) {
-        Call call = new Call(name, args);
-        TapeSampler with = state.make();
-        TapeSampler without = state.make();
-        Due.is(sentence + " | " + state + ": " + call, call.on(with), due);
-        sameLater(sentence + " | " + state + ": " + call + " then ", with, without);
+        answers(sentence, state, due, name, args);
+        changeNothing(sentence, state, List.of(new Call(name, args)));
     }
 
-    static void sameLater(String before, TapeSampler with, TapeSampler without) {
-        for (Call later : Later.CALLS) {
-            Due.is(before + later, later.on(with), later.on(without));
+    /** All later calls answer as they do on a twin without these calls. */
+    static void changeNothing(String sentence, State state, List<Call> calls) {
+        for (List<Call> run : Later.RUNS) {
+            TapeSampler with = state.make();
+            TapeSampler without = state.make();
+            for (Call call : calls) {
+                call.on(with);
+            }
+            for (Call later : run) {
+                String text = sentence + " | " + state + ": " + later + " after " + calls;
+                Due.is(text, later.on(with), later.on(without));
+            }
         }
+        int spent = state.calls().size() + calls.size() + Later.LONGEST;
+        Due.holds("at most 512 calls: " + spent, spent <= 512);
     }
 }

@@ -1,70 +1,92 @@
 import java.util.ArrayList;
 import java.util.List;
 
-/** Calls that ask for all of an object, then change all of it and ask again. */
+/** Runs of later calls; each begins another way, so that no first question hides what was left over. */
 final class Later {
-    static final List<Call> CALLS = new ArrayList<>();
-
-    static {
-        askAll();
-        add("shift", 2);
-        add("leap", 0, 3);
-        add("leap", 1, 1);
-        add("leap", 2, 2);
-        askChains();
-        add("turn", 0);
-        add("copy", 0, 1);
-        askChains();
-        changeModel();
-        add("clear");
-        changeModel();
-    }
+    static final List<List<Call>> RUNS = List.of(asking(), moving(), building(), clearing());
+    static final int LONGEST = RUNS.stream().mapToInt(List::size).max().getAsInt();
 
     private Later() {
     }
 
-    private static void askAll() {
-        add("nodes");
-        add("terms");
-        add("live");
+    private static List<Call> asking() {
+        List<Call> run = new ArrayList<>();
+        askAll(run);
+        moveChains(run);
+        askChains(run);
+        return run;
+    }
+
+    private static List<Call> moving() {
+        List<Call> run = new ArrayList<>();
+        moveChains(run);
+        askAll(run);
+        return run;
+    }
+
+    private static List<Call> building() {
+        List<Call> run = new ArrayList<>();
+        build(run);
+        askAll(run);
+        return run;
+    }
+
+    private static List<Call> clearing() {
+        List<Call> run = new ArrayList<>();
+        add(run, "clear");
+        build(run);
+        askAll(run);
+        return run;
+    }
+
+    private static void askAll(List<Call> run) {
+        add(run, "nodes");
+        add(run, "terms");
+        add(run, "live");
         for (int chain = 0; chain < 3; chain++) {
             for (int node = 0; node <= 24; node++) {
-                add("valueOf", chain, node);
+                add(run, "valueOf", chain, node);
             }
             for (int i = 0; i < 4; i++) {
-                add("slope", chain, i);
-                add("targetAt", chain, i, 6);
+                add(run, "slope", chain, i);
+                add(run, "targetAt", chain, i, 6);
             }
-            add("drift", chain);
+            add(run, "drift", chain);
         }
-        askChains();
+        askChains(run);
     }
 
-    private static void askChains() {
+    private static void askChains(List<Call> run) {
         for (int chain = 0; chain < 3; chain++) {
             for (int i = 0; i < 4; i++) {
-                add("position", chain, i);
-                add("momentum", chain, i);
+                add(run, "position", chain, i);
+                add(run, "momentum", chain, i);
             }
-            add("target", chain);
+            add(run, "target", chain);
         }
     }
 
-    private static void changeModel() {
-        add("parameter", 1);
-        add("constant", 7);
-        add("combine", 1, 0, 1);
-        add("square", 2);
-        add("term", 3, -3);
-        add("term", 0, 20);
-        add("nodes");
-        add("terms");
-        add("live");
-        add("target", 0);
-        add("slope", 2, 1);
+    private static void moveChains(List<Call> run) {
+        add(run, "leap", 0, 3);
+        add(run, "shift", 2);
+        add(run, "leap", 1, 1);
+        add(run, "turn", 2);
+        add(run, "leap", 2, 2);
+        add(run, "copy", 0, 1);
+        add(run, "place", 1, 2, -8);
+        add(run, "push", 2, 1, 9);
     }
 
-    private static void add(String name, int... args) {
-        CALLS.add(new Call(name, args));
+    private static void build(List<Call> run) {
+        add(run, "parameter", 1);
+        add(run, "constant", 7);
+        add(run, "combine", 1, 0, 1);
+        add(run, "square", 0);
+        add(run, "term", 3, -3);
+        add(run, "term", 0, 20);
+    }
+
+    private static void add(List<Call> run, String name, int... args) {
+        run.add(new Call(name, args));
     }
 }

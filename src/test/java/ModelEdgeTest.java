@@ -31,6 +31,7 @@ public final class ModelEdgeTest {
         termsFromEmptyToFull();
         liveFromEmptyToFull();
         liveOverOthers();
+        liveAfterClear();
         liveWithWeightZero();
         Due.end();
     }
@@ -382,12 +383,28 @@ public final class ModelEdgeTest {
         Due.is("23: each node once", s.live(), 24);
     }
 
+    private static void liveAfterClear() {
+        TapeSampler s = State.FULL.make();
+        Due.is("23: all 24", s.live(), 24);
+        s.clear();
+        Due.is("23: none after clear", s.live(), 0);
+        for (int node = 0; node < 24; node++) {
+            s.constant(node);
+        }
+        Due.is("23: no new node without a term", s.live(), 0);
+        s.term(0, 1);
+        Due.is("23: the first of the new nodes", s.live(), 1);
+        s.term(23, 1);
+        Due.is("23: the first and the last", s.live(), 2);
+    }
+
     private static void liveWithWeightZero() {
         TapeSampler s = State.NO_TERMS.make();
         s.term(3, 0);
         Due.is("24: live counts nodes of terms with weight 0, too", s.live(), 1);
         s.term(8, 0);
         Due.is("24: and the nodes that they are made of", s.live(), 9);
+        Due.is("24: the weight stays 0", s.target(2), 0);
         s.term(8, 20);
         Due.is("24: the same with another weight", s.live(), 9);
         Due.is("24: the weight 0 term counts as a term", s.terms(), 3);

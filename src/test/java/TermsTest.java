@@ -101,13 +101,11 @@ public final class TermsTest {
     private static void manyRefusedCalls() {
         for (State state : State.values()) {
             List<Call> refused = refusedCalls(state);
-            TapeSampler with = state.make();
+            TapeSampler s = state.make();
             for (Call call : refused) {
-                Due.holds(call + " on " + state + " is refused", call.on(with) < 0);
+                Due.holds(call + " on " + state + " is refused", call.on(s) < 0);
             }
-            Edge.sameLater("A refused call changes nothing | " + state + ": ", with, state.make());
-            int calls = state.calls().size() + refused.size() + Later.CALLS.size();
-            Due.holds("at most 512 calls on " + state + ": " + calls, calls <= 512);
+            Edge.changeNothing("A refused call changes nothing", state, refused);
         }
     }
 
@@ -167,14 +165,7 @@ public final class TermsTest {
 
     private static void manyQuestions() {
         for (State state : State.values()) {
-            List<Call> questions = questions(state);
-            TapeSampler with = state.make();
-            for (Call call : questions) {
-                call.on(with);
-            }
-            Edge.sameLater("No question changes anything | " + state + ": ", with, state.make());
-            int calls = state.calls().size() + questions.size() + Later.CALLS.size();
-            Due.holds("at most 512 calls on " + state + ": " + calls, calls <= 512);
+            Edge.changeNothing("No question changes anything", state, questions(state));
         }
     }
 

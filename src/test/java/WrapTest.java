@@ -1,3 +1,5 @@
+import java.util.List;
+
 /** "All arithmetic is that of ints and wraps": each operation beside and beyond the ends of the ints. */
 public final class WrapTest {
     private static final int MIN = Integer.MIN_VALUE;
@@ -387,12 +389,9 @@ public final class WrapTest {
 
     private static void thereAndBack() {
         for (int chain = 0; chain < 3; chain++) {
-            TapeSampler s = State.FULL.make();
-            s.leap(chain, 40);
-            s.turn(chain);
-            s.leap(chain, 40);
-            s.turn(chain);
-            Edge.sameLater("40 leaps that wrap, and back, then ", s, State.FULL.make());
+            Call leap = new Call("leap", chain, 40);
+            Call turn = new Call("turn", chain);
+            Edge.changeNothing("40 leaps that wrap, and back", State.FULL, List.of(leap, turn, leap, turn));
         }
     }
 }
